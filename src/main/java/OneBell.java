@@ -100,19 +100,19 @@ public final class OneBell {
 
     public int pull(int thing, int n) {
         if (!isPull(thing, n)) return bad(BAD);
-        swing.byOne(now, now.whole, thing, n);
+        swing.by(now, now.whole, thing, n, NONE, 0);
         return doSwing();
     }
 
     public int both(int p, int n, int q, int m) {
         if (!isPull(p, n) || !isPull(q, m) || p == q) return bad(BAD);
-        swing.byTwo(now, now.whole, p, n, q, m);
+        swing.by(now, now.whole, p, n, q, m);
         return doSwing();
     }
 
     public int would(int thing, int n) {
         if (!isPull(thing, n)) return bad(BAD);
-        swing.byOne(now, now.whole, thing, n);
+        swing.by(now, now.whole, thing, n, NONE, 0);
         return swing.behind(now.open);
     }
 
@@ -122,7 +122,7 @@ public final class OneBell {
 
     public int moves(int pulled, int n, int thing) {
         if (!isPull(pulled, n) || !now.hasThing(thing)) return bad(BAD);
-        swing.byOne(now, now.whole, pulled, n);
+        swing.by(now, now.whole, pulled, n, NONE, 0);
         return swing.moveOf(now, now.whole, thing);
     }
 
@@ -207,7 +207,8 @@ public final class OneBell {
 
     public int share(int thing) {
         if (!now.hasThing(thing)) return bad(BAD);
-        day.weighShare(now, thing);
+        day.findHarmOfRopes(now);
+        day.weighShare(now.things, thing);
         keepFraction(day.shareAbove, day.shareBelow);
         return 1;
     }
@@ -520,22 +521,23 @@ public final class OneBell {
             this.kinds = kinds;
         }
 
-        void byOne(Village village, int whole, int thing, int inches) {
-            first = thing;
-            firstInches = inches;
-            second = NONE;
-            secondInches = 0;
-            travel = travelBy(village, whole, thing, inches);
-            findEffect(village, whole);
-        }
-
-        void byTwo(Village village, int whole, int p, int n, int q, int m) {
+        /** By one thing alone, q is NONE. */
+        void by(Village village, int whole, int p, int n, int q, int m) {
             first = p;
             firstInches = n;
             second = q;
             secondInches = m;
             travel = travelBy(village, whole, p, n) + travelBy(village, whole, q, m);
-            findEffect(village, whole);
+            counting = 0;
+            turned = 0;
+            for (int t = 0; t < village.things; t++) {
+                Door kind = kinds.ofNumber(village.kind[t]);
+                int move = moveOf(village, whole, t);
+                boolean fromShut = kind.becomes(false, move, village.stop[t]);
+                boolean fromOpen = kind.becomes(true, move, village.stop[t]);
+                if (fromShut) turned |= 1 << t;
+                if (fromShut != fromOpen) counting |= 1 << t;
+            }
         }
 
         int rings() {
@@ -554,21 +556,8 @@ public final class OneBell {
         }
 
         private static int travelBy(Village village, int whole, int thing, int inches) {
-            if (!has(whole, thing)) return 0;
+            if (thing == NONE || !has(whole, thing)) return 0;
             return Math.max(0, inches - village.slackInDamp(thing));
-        }
-
-        private void findEffect(Village village, int whole) {
-            counting = 0;
-            turned = 0;
-            for (int t = 0; t < village.things; t++) {
-                Door kind = kinds.ofNumber(village.kind[t]);
-                int move = moveOf(village, whole, t);
-                boolean fromShut = kind.becomes(false, move, village.stop[t]);
-                boolean fromOpen = kind.becomes(true, move, village.stop[t]);
-                if (fromShut) turned |= 1 << t;
-                if (fromShut != fromOpen) counting |= 1 << t;
-            }
         }
     }
 
@@ -605,7 +594,7 @@ public final class OneBell {
         void look(Village village, int whole) {
             errands = village.errands;
             for (int e = 0; e < errands; e++) {
-                swing.byOne(village, whole, village.errandThing[e], village.errandInches[e]);
+                swing.by(village, whole, village.errandThing[e], village.errandInches[e], NONE, 0);
                 counting[e] = swing.counting;
                 turned[e] = swing.turned;
                 rings[e] = swing.rings();
@@ -717,10 +706,17 @@ public final class OneBell {
             return false;
         }
 
+        void findHarmOfRopes(Village village) {
+            for (int whole = 0; whole < 1 << village.things; whole++) {
+                look(village, whole);
+                int sum = 0;
+                for (int e = 0; e < errands; e++) sum += village.harmOf(behind(e, 0));
+                harmOfRopes[whole] = sum;
+            }
+        }
+
         /** The orders in which just some ropes come ahead of this one are counted, not gone through. */
-        void weighShare(Village village, int thing) {
-            findHarmOfRopes(village);
-            int things = village.things;
+        void weighShare(int things, int thing) {
             shareAbove = 0;
             shareBelow = FACTORIAL[things];
             for (int ahead = 0; ahead < 1 << things; ahead++) {
@@ -728,15 +724,6 @@ public final class OneBell {
                 int many = Integer.bitCount(ahead);
                 int orders = FACTORIAL[many] * FACTORIAL[things - 1 - many];
                 shareAbove += orders * (harmOfRopes[ahead | 1 << thing] - harmOfRopes[ahead]);
-            }
-        }
-
-        private void findHarmOfRopes(Village village) {
-            for (int whole = 0; whole < 1 << village.things; whole++) {
-                look(village, whole);
-                int sum = 0;
-                for (int e = 0; e < errands; e++) sum += village.harmOf(behind(e, 0));
-                harmOfRopes[whole] = sum;
             }
         }
     }
@@ -759,7 +746,7 @@ public final class OneBell {
         private final boolean[] canBe = new boolean[MOST_RULES];
         private final int[] sumsByRule = new int[MOST_RULES * MOST_THINGS];
         private final int[] sumsByPair = new int[MOST_THINGS * MOST_THINGS];
-        private final int[] left = new int[(MOST_THINGS + 1) * MOST_THINGS];
+        private final int[] left = new int[MOST_THINGS * MOST_THINGS];
         final int[] row = new int[MOST_THINGS];
 
         SlackSearch(Kinds kinds) {
@@ -904,7 +891,6 @@ public final class OneBell {
         }
 
         private boolean takesItem() {
-            if (token != WORD) return false;
             if (isWord("thing")) return takesThing();
             if (isWord("cut")) return takesCut();
             if (isWord("damp")) return takesDamp();
@@ -960,28 +946,32 @@ public final class OneBell {
         }
 
         private void nextToken() {
-            while (at < length && text[at] == ' ') at++;
-            start = at;
-            if (at >= length) {
+            start = endOfRun(at, ' ', ' ');
+            at = start;
+            if (start >= length) {
                 token = END;
-            } else if (isLetter(text[at])) {
+            } else if (text[start] >= 'a' && text[start] <= 'z') {
                 token = WORD;
-                while (at < length && isLetter(text[at])) at++;
-            } else if (isFigure(text[at])) {
+                at = endOfRun(start, 'a', 'z');
+            } else if (text[start] >= '0' && text[start] <= '9') {
+                at = endOfRun(start, '0', '9');
                 takeFigures();
             } else {
-                token = text[at] == ';' ? ENDS_ITEM : NO_TOKEN;
-                at++;
+                token = text[start] == ';' ? ENDS_ITEM : NO_TOKEN;
+                at = start + 1;
             }
         }
 
+        private int endOfRun(int from, char least, char most) {
+            int end = from;
+            while (end < length && text[end] >= least && text[end] <= most) end++;
+            return end;
+        }
+
         private void takeFigures() {
-            number = 0;
-            while (at < length && isFigure(text[at])) {
-                if (at - start < MOST_FIGURES) number = 10 * number + text[at] - '0';
-                at++;
-            }
             token = at - start <= MOST_FIGURES ? NUMBER : NO_TOKEN;
+            number = 0;
+            for (int i = start; i < at && i < start + MOST_FIGURES; i++) number = 10 * number + text[i] - '0';
         }
 
         private boolean isWord(String word) {
@@ -990,14 +980,6 @@ public final class OneBell {
                 if (text[start + i] != word.charAt(i)) return false;
             }
             return true;
-        }
-
-        private static boolean isLetter(int sign) {
-            return within(sign, 'a', 'z');
-        }
-
-        private static boolean isFigure(int sign) {
-            return within(sign, '0', '9');
         }
     }
 }
