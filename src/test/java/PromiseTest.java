@@ -2,13 +2,7 @@
  * One method a promise of the document: what is ordinary, the edges it names, what is refused. The answers that are
  * due were worked out by hand from the document's words.
  */
-public final class PromiseTest {
-    private static final int DOOR = 0, LATCH = 1, LID = 2, WHEEL = 3, SLUICE = 4;
-    private static final int LEAST = Integer.MIN_VALUE, MOST = Integer.MAX_VALUE;
-
-    private static int wrong = 0;
-    private static int promise = 0;
-
+public final class PromiseTest extends Due {
     public static void main(String[] args) {
         aNewObject();
         thing();
@@ -43,43 +37,11 @@ public final class PromiseTest {
         status();
         count();
         digest();
-        System.out.println(wrong == 0 ? "all promises hold" : wrong + " answers are not as due");
-        if (wrong != 0) System.exit(1);
-    }
-
-    private static void due(String what, long got, long want) {
-        if (got == want) return;
-        wrong++;
-        System.out.println("promise " + promise + ": " + what + " answered " + got + ", due is " + want);
-    }
-
-    /** A village by a text that must be faultless. */
-    private static OneBell village(String text) {
-        OneBell x = new OneBell();
-        typeText(x, text);
-        if (x.read() < 0) throw new IllegalStateException("the test's own text has a fault: " + text);
-        x.clear();
-        return x;
-    }
-
-    private static void typeText(OneBell x, String text) {
-        for (int i = 0; i < text.length(); i++) x.type(text.charAt(i), 1);
-    }
-
-    private static int readOf(String text) {
-        OneBell x = new OneBell();
-        typeText(x, text);
-        return x.read();
-    }
-
-    private static void statusIs(OneBell x, int bad, int no, int full) {
-        due("status(0)", x.status(0), bad);
-        due("status(1)", x.status(1), no);
-        due("status(2)", x.status(2), full);
+        end("all promises hold");
     }
 
     private static void aNewObject() {
-        promise = 1;
+        says("promise 1");
         OneBell x = new OneBell();
         for (int what = 0; what <= 6; what++) due("count(" + what + ")", x.count(what), 0);
         due("open", x.open(), 0);
@@ -91,7 +53,7 @@ public final class PromiseTest {
     }
 
     private static void thing() {
-        promise = 2;
+        says("promise 2");
         OneBell x = new OneBell();
         int[][] wrongOnes = {{-1, 0, 1, 0}, {5, 0, 1, 0}, {0, -1, 1, 0}, {0, 10, 1, 0}, {0, 0, 0, 0}, {0, 0, 10, 0},
             {0, 0, 1, -1}, {0, 0, 1, 10}, {LEAST, 0, 1, 0}, {MOST, 0, 1, 0}, {0, LEAST, 1, 0}, {0, MOST, 1, 0},
@@ -111,7 +73,7 @@ public final class PromiseTest {
     }
 
     private static void rope() {
-        promise = 3;
+        says("promise 3");
         OneBell x = village("thing 0 2 3 1;thing 0 1 2 1;");
         due("one that is whole", x.rope(0, true), OneBell.NO);
         due("pull ahead", x.would(0, 9), 3);
@@ -128,7 +90,7 @@ public final class PromiseTest {
     }
 
     private static void damp() {
-        promise = 4;
+        says("promise 4");
         OneBell x = village("thing 0 5 3 1;thing 0 9 3 1;");
         due("travel 10, 9 off", x.moves(0, 15, 1), 1);
         due("first damp", x.damp(4), 0);
@@ -144,7 +106,7 @@ public final class PromiseTest {
     }
 
     private static void type() {
-        promise = 5;
+        says("promise 5");
         OneBell x = new OneBell();
         for (int n : new int[] {0, 9, -1, LEAST, MOST}) due("wrong n", x.type(65, n), OneBell.BAD);
         // The highest of the lowest five bytes first: "damp " and then "7;", the bytes above left out.
@@ -163,7 +125,7 @@ public final class PromiseTest {
     }
 
     private static void clear() {
-        promise = 6;
+        says("promise 6");
         OneBell x = new OneBell();
         due("an empty one", x.clear(), 0);
         typeText(x, "damp 3;x");
@@ -176,7 +138,7 @@ public final class PromiseTest {
     }
 
     private static void read() {
-        promise = 7;
+        says("promise 7");
         due("an empty text", readOf(""), 0);
         due("blanks alone", readOf("   "), 0);
         due("blanks between", readOf("  thing  0 0   1 0 ; cut 0 ;  damp 9;"), 3);
@@ -228,7 +190,7 @@ public final class PromiseTest {
     }
 
     private static void readFaults() {
-        promise = 7;
+        says("promise 7");
         String one = "thing 0 0 1 0;";
         String five = one + one + one + one + one;
         Object[][] faults = {
@@ -251,7 +213,7 @@ public final class PromiseTest {
     }
 
     private static void pull() {
-        promise = 8;
+        says("promise 8");
         OneBell x = village("thing 0 2 3 1;thing 0 1 4 1;thing 0 9 1 1;");
         due("travel 2", x.pull(0, 4), 0);
         due("opens itself", x.open(), 1);
@@ -276,7 +238,7 @@ public final class PromiseTest {
 
     /** Each kind pulled by itself, with stop 3, by these inches one after the other. */
     private static void kinds() {
-        promise = 8;
+        says("promise 8");
         int[] inches = {2, 3, 2, 5, 6, 2, 4, 20, 3};
         int[][] states = {
             {0, 1, 0, 1, 1, 0, 1, 1, 1},
@@ -295,7 +257,7 @@ public final class PromiseTest {
     }
 
     private static void both() {
-        promise = 9;
+        says("promise 9");
         OneBell x = village("thing 0 2 4 1;thing 0 3 6 1;thing 0 1 4 1;");
         due("travels 1 and 2", x.both(0, 3, 1, 5), 1);
         due("each moves by its own inches: 3 and 5; the third by 2", x.open(), 0);
@@ -315,7 +277,7 @@ public final class PromiseTest {
     }
 
     private static void would() {
-        promise = 10;
+        says("promise 10");
         OneBell x = village("thing 3 0 2 1;thing 1 1 2 1;");
         due("both", x.would(0, 3), 3);
         due("nothing is done", x.open(), 0);
@@ -334,7 +296,7 @@ public final class PromiseTest {
     }
 
     private static void open() {
-        promise = 11;
+        says("promise 11");
         OneBell x = village("thing 0 9 1 1;thing 1 9 1 1;thing 0 9 1 1;thing 0 9 1 1;thing 1 9 1 1;");
         due("none", x.open(), 0);
         x.pull(4, 1);
@@ -348,7 +310,7 @@ public final class PromiseTest {
     }
 
     private static void moves() {
-        promise = 12;
+        says("promise 12");
         OneBell x = village("thing 0 2 3 1;thing 0 1 2 1;");
         due("itself", x.moves(0, 7, 0), 7);
         due("the other one", x.moves(0, 7, 1), 4);
@@ -366,7 +328,7 @@ public final class PromiseTest {
     }
 
     private static void undo() {
-        promise = 13;
+        says("promise 13");
         OneBell x = village("thing 3 0 1 1;thing 1 9 1 1;");
         due("none", x.undo(), OneBell.NO);
         x.pull(1, 1);
@@ -385,7 +347,7 @@ public final class PromiseTest {
     }
 
     private static void errand() {
-        promise = 14;
+        says("promise 14");
         OneBell x = village("thing 0 0 1 1;thing 0 0 1 1;");
         int[][] wrongOnes = {{2, 1}, {-1, 1}, {0, 21}, {0, -1}, {MOST, 1}, {0, LEAST}};
         for (int[] w : wrongOnes) due("wrong", x.errand(w[0], w[1]), OneBell.BAD);
@@ -398,7 +360,7 @@ public final class PromiseTest {
     }
 
     private static void drop() {
-        promise = 15;
+        says("promise 15");
         OneBell x = village("thing 0 0 1 1;errand 0 3;errand 0 9;");
         due("rings 3 times", x.heard(3), 2);
         due("the last goes", x.drop(), 1);
@@ -411,7 +373,7 @@ public final class PromiseTest {
     }
 
     private static void order() {
-        promise = 16;
+        says("promise 16");
         // A latch (harm 1) and a sluice (harm 9, stop 1): errand 0 opens the sluice, 1 shuts it, 2 the latch alone.
         OneBell x = village("thing 1 9 1 1;thing 4 9 1 9;errand 1 2;errand 1 4;errand 0 1;");
         due("harm", x.order(-1), 10);
@@ -443,7 +405,7 @@ public final class PromiseTest {
     }
 
     private static void code() {
-        promise = 17;
+        says("promise 17");
         OneBell x = village("thing 3 9 1 1;thing 3 9 1 1;errand 0 1;errand 0 2;errand 1 1;");
         due("none are needed", x.code(0, -1), 0);
         due("none is the first", x.code(0, 0), -5);
@@ -483,7 +445,7 @@ public final class PromiseTest {
     }
 
     private static void who() {
-        promise = 18;
+        says("promise 18");
         // Errands 0 and 1 turn the wheel, 2 opens the latch.
         OneBell x = village("thing 3 9 1 1;thing 1 9 1 1;errand 0 1;errand 0 2;errand 1 1;");
         due("nothing open", x.who(0, 0), 2);
@@ -511,7 +473,7 @@ public final class PromiseTest {
     }
 
     private static void heard() {
-        promise = 19;
+        says("promise 19");
         OneBell x = village("thing 0 2 3 1;thing 0 9 2 1;errand 0 4;errand 0 5;errand 0 20;errand 1 20;errand 1 12;");
         due("not at all", x.heard(0), 1);
         due("once", x.heard(1), 18);
@@ -530,7 +492,7 @@ public final class PromiseTest {
     }
 
     private static void cuts() {
-        promise = 20;
+        says("promise 20");
         OneBell x = village("thing 0 0 3 1;thing 0 0 2 1;thing 0 0 3 1;errand 0 2;");
         due("nothing told", x.cuts(0), 0);
         due("what does not open anyhow", x.cuts(5), 0);
@@ -568,7 +530,7 @@ public final class PromiseTest {
     }
 
     private static void rule() {
-        promise = 21;
+        says("promise 21");
         OneBell x = village("thing 0 0 1 1;thing 0 0 1 1;");
         int[][] wrongOnes = {{2, 1, 0}, {-1, 1, 0}, {0, 21, 0}, {0, -1, 0}, {0, 1, 4}, {0, 1, -1}, {0, 1, LEAST}};
         for (int[] w : wrongOnes) due("wrong", x.rule(w[0], w[1], w[2]), OneBell.BAD);
@@ -583,7 +545,7 @@ public final class PromiseTest {
     }
 
     private static void free() {
-        promise = 22;
+        says("promise 22");
         OneBell x = village("thing 0 0 1 1;rule 0 1 1;rule 0 1 0;");
         due("there were", x.free(), 2);
         due("count(3)", x.count(3), 0);
@@ -592,7 +554,7 @@ public final class PromiseTest {
     }
 
     private static void slack() {
-        promise = 23;
+        says("promise 23");
         OneBell x = village("thing 0 5 3 1;thing 1 5 3 1;thing 3 5 2 1;");
         due("no rules: the least", x.slack(0), 0);
         // Pulled by 6, thing 1 is to move 3 at least, thing 2 is to move 1 at most: 0 + 5 = 5.
@@ -636,7 +598,7 @@ public final class PromiseTest {
     }
 
     private static void giveUp() {
-        promise = 24;
+        says("promise 24");
         OneBell x = village("thing 0 0 2 1;thing 0 0 2 1;");
         due("no rules", x.giveUp(), 0);
         x.rule(0, 5, 3);
@@ -655,7 +617,7 @@ public final class PromiseTest {
     }
 
     private static void share() {
-        promise = 25;
+        says("promise 25");
         OneBell x = village("thing 0 0 1 6;thing 0 0 1 4;thing 0 0 1 1;errand 0 1;");
         // Thing 0 opens by itself. Thing 1 needs its own rope and thing 0's; so does thing 2: half of each.
         due("share", x.share(0), 1);
@@ -698,7 +660,7 @@ public final class PromiseTest {
     }
 
     private static void part() {
-        promise = 26;
+        says("promise 26");
         OneBell x = village("thing 0 0 1 6;thing 0 0 1 3;errand 0 1;");
         due("at first", x.part(0), 0);
         due("at first", x.part(1), 1);
@@ -714,7 +676,7 @@ public final class PromiseTest {
     }
 
     private static void image() {
-        promise = 27;
+        says("promise 27");
         OneBell x = village("thing 0 0 1 6;");
         due("0", x.image(0), 1);
         x.pull(0, 1);
@@ -736,7 +698,7 @@ public final class PromiseTest {
     }
 
     private static void from() {
-        promise = 28;
+        says("promise 28");
         OneBell x = village("thing 3 0 1 6;thing 1 9 2 3;errand 0 1;rule 0 1 1;damp 2;cut 1;");
         x.pull(0, 1);
         due("none was kept", x.from(1), OneBell.NO);
@@ -765,7 +727,7 @@ public final class PromiseTest {
     }
 
     private static void status() {
-        promise = 29;
+        says("promise 29");
         OneBell x = new OneBell();
         x.undo();
         x.drop();
@@ -789,7 +751,7 @@ public final class PromiseTest {
     }
 
     private static void count() {
-        promise = 30;
+        says("promise 30");
         OneBell x = village("thing 0 0 1 0;thing 0 0 1 0;thing 0 0 1 0;cut 1;errand 0 1;errand 0 1;rule 0 1 1;damp 8;");
         x.pull(0, 0);
         typeText(x, "abcde");
@@ -800,7 +762,7 @@ public final class PromiseTest {
     }
 
     private static void digest() {
-        promise = 31;
+        says("promise 31");
         due("a new one", new OneBell().digest(), mixed(0, 0, 0, 0, 0, 0, 0, 0, 0, 1));
         OneBell x = village("thing 1 2 3 4;thing 0 5 1 7;cut 0;errand 0 20;errand 1 7;rule 1 6 3;rule 0 9 2;damp 8;");
         x.pull(0, 3);
@@ -810,11 +772,21 @@ public final class PromiseTest {
         due("all", x.digest(), mixed(2, 1, 2, 2, 1, 2, 8, 1, 1, 2, 3, 4, 0, 0, 5, 1, 7, 1, 0, 20, 1, 7, 1, 6, 3, 0, 9, 2,
             11, 2));
         due("digest changes nothing", x.status(0), 0);
+        digestOfAFullOne();
     }
 
-    private static long mixed(long... values) {
-        long h = 773;
-        for (long v : values) h = 31 * h + v;
-        return h;
+    /** So many values that h goes far beyond what a long holds, and wraps around. */
+    private static void digestOfAFullOne() {
+        OneBell x = village("thing 0 9 1 9;thing 1 8 2 8;thing 2 7 3 7;thing 3 6 4 6;thing 4 5 9 5;cut 0;cut 4;damp 9;"
+            + "errand 0 20;errand 1 19;errand 2 18;errand 3 17;errand 4 16;");
+        for (int r = 0; r <= 3; r++) x.rule(4 - r, 20 - r, 31 - r);
+        for (int i = 0; i < 11; i++) x.pull(3, 20 - i % 2);
+        typeText(x, times(200, ";"));
+        // Errands 1 to 4 open thing 0 by two ropes: half of 9, four times. Errand 0 opens 1 and 3 so: half of 14.
+        x.share(0);
+        due("above", x.part(0), 25);
+        due("below", x.part(1), 1);
+        due("all", x.digest(), mixed(5, 3, 5, 4, 10, 200, 9, 10, 0, 9, 1, 9, 0, 1, 8, 2, 8, 1, 2, 7, 3, 7, 1, 3, 6, 4, 6, 1,
+            4, 5, 9, 5, 0, 0, 20, 1, 19, 2, 18, 3, 17, 4, 16, 4, 20, 31, 3, 19, 30, 2, 18, 29, 1, 17, 28, 25, 1));
     }
 }
