@@ -1,4 +1,6 @@
+import java.io.DataInputStream;
 import java.io.IOException;
+import java.io.InputStream;
 import java.lang.reflect.Constructor;
 import java.lang.reflect.Field;
 import java.lang.reflect.Method;
@@ -23,6 +25,14 @@ public final class FaceTest {
         "int free()", "int slack(int)", "int giveUp()", "int share(int)", "long part(int)", "int image(int)",
         "int from(int)", "int status(int)", "int count(int)", "long digest()"};
     private static final String[] CONSTANTS = {"NONE", "BAD", "NO", "FULL"};
+    // Of what LANGUAGE.md allows, what the class has had need of so far.
+    private static final String[] LIBRARY = {"java/lang/Object.<init>", "java/lang/String.length",
+        "java/lang/String.charAt", "java/lang/Integer.bitCount", "java/lang/Math.abs", "java/lang/Math.max",
+        "java/lang/Math.min", "java/lang/System.arraycopy"};
+    // The lines that make objects beside fields' first values: the constructor's, and an image that is kept first.
+    private static final String[] MAKING = {"Kinds kinds = new Kinds();", "swing = new Swing(kinds);",
+        "day = new Day(new Swing(kinds));", "search = new SlackSearch(kinds);", "reader = new Reader();",
+        "if (images[i] == null) images[i] = new Village();"};
 
     private static int wrong = 0;
 
@@ -30,7 +40,10 @@ public final class FaceTest {
         face();
         List<Class<?>> all = new ArrayList<>(List.of(OneBell.class));
         all.addAll(Arrays.asList(OneBell.class.getDeclaredClasses()));
-        for (Class<?> c : all) shape(c);
+        for (Class<?> c : all) {
+            shape(c);
+            library(c);
+        }
         holds("some twelve classes at most", all.size() <= 12);
         source();
         System.out.println(wrong == 0 ? "the face is as told" : wrong + " things are not as told");
@@ -82,6 +95,37 @@ public final class FaceTest {
         for (Method m : c.getDeclaredMethods()) holds(m + " takes seven at most", m.getParameterCount() <= 7);
     }
 
+    /** All that the compiled class names of the library's members, by its table of constants. */
+    private static void library(Class<?> c) throws IOException {
+        try (InputStream bytes = OneBell.class.getResourceAsStream(c.getName() + ".class")) {
+            DataInputStream in = new DataInputStream(bytes);
+            in.readInt();
+            in.readInt();
+            int many = in.readUnsignedShort();
+            String[] texts = new String[many];
+            int[][] pairs = new int[many][];
+            int[] tags = new int[many];
+            for (int i = 1; i < many; i++) {
+                tags[i] = in.readUnsignedByte();
+                switch (tags[i]) {
+                    case 1: texts[i] = in.readUTF(); break;
+                    case 3: case 4: in.readInt(); break;
+                    case 5: case 6: in.readLong(); i++; break;
+                    case 7: case 8: pairs[i] = new int[] {in.readUnsignedShort()}; break;
+                    case 9: case 10: case 11: case 12:
+                        pairs[i] = new int[] {in.readUnsignedShort(), in.readUnsignedShort()};
+                        break;
+                    default: holds(c + " has nothing made at its first call (tag " + tags[i] + ")", false); return;
+                }
+            }
+            for (int i = 1; i < many; i++) {
+                if (tags[i] < 9 || tags[i] > 11) continue;
+                String member = texts[pairs[pairs[i][0]][0]] + "." + texts[pairs[pairs[i][1]][0]];
+                holds(c + " may use " + member, member.startsWith("OneBell") || List.of(LIBRARY).contains(member));
+            }
+        }
+    }
+
     private static void source() throws IOException {
         String text = Files.readString(Path.of("src/main/java/OneBell.java"), StandardCharsets.UTF_8);
         for (int i = 0; i < text.length(); i++) {
@@ -94,5 +138,22 @@ public final class FaceTest {
             Matcher m = Pattern.compile(pattern).matcher(code);
             holds("'" + pattern + "' stands nowhere", !m.find());
         }
+        for (String line : code.split("\n")) {
+            boolean isField = line.matches("\\s+(private|final) .* = new \\w+(\\(\\)|\\[[^\\[\\]]+\\]);");
+            boolean makes = line.matches(".*\\bnew\\b.*");
+            holds("an object may be made by" + line, !makes || isField || List.of(MAKING).contains(line.trim()));
+        }
+        lengths(code);
+    }
+
+    /** Methods stay short: from a line that opens one to the line that ends it, four or eight blanks in. */
+    private static void lengths(String code) {
+        Matcher m = Pattern.compile("(?ms)^((?: {4}){1,2})([\\w<\\[][^\\n;=]*\\([^\\n;]*\\)) \\{$(.*?)^\\1\\}$").matcher(code);
+        int methods = 0;
+        while (m.find()) {
+            methods++;
+            holds(m.group(2) + " has some sixty lines at most", m.group(3).split("\n").length <= 60);
+        }
+        holds("methods were found", methods > 60);
     }
 }

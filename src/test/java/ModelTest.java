@@ -10,10 +10,14 @@ import java.util.regex.Pattern;
  * by one, all rows, all orders. Every answer must be alike. The seeds are fixed, so a run can be had again.
  */
 public final class ModelTest {
-    private static final int RUNS = 260;
+    private static final int RUNS = 300;
     private static final int CALLS = 512;
+    // A village of 200 bytes: one clear, 25 pieces and one more, one read.
+    private static final int MOST_OF_A_STEP = 28;
+    private static final int AT_THE_END = 4;
 
     private static int wrong = 0;
+    private static int calls = 0;
 
     public static void main(String[] args) {
         for (int seed = 1; seed <= RUNS && wrong < 20; seed++) run(seed);
@@ -25,13 +29,22 @@ public final class ModelTest {
         Random chance = new Random(seed);
         OneBell bell = new OneBell();
         Model model = new Model();
-        for (int call = 0; call < CALLS; call++) {
-            String told = step(chance, bell, model);
-            if (told == null) continue;
-            wrong++;
-            System.out.println("seed " + seed + ", step " + call + ": " + told);
-            return;
+        calls = 0;
+        for (int step = 0; step < CALLS && calls <= CALLS - MOST_OF_A_STEP - AT_THE_END; step++) {
+            if (differs(seed, step(chance, bell, model))) return;
         }
+        for (int what = 0; what <= 2; what++) {
+            if (differs(seed, differ("status " + what, bell.status(what), model.status(what)))) return;
+        }
+        differs(seed, differ("digest", bell.digest(), model.digest()));
+        if (calls > CALLS) differs(seed, "the test itself makes too many calls");
+    }
+
+    private static boolean differs(int seed, String told) {
+        if (told == null) return false;
+        wrong++;
+        System.out.println("seed " + seed + ", call " + calls + ": " + told);
+        return true;
     }
 
     /** One step: a call or a few; null if all answers are alike. */
@@ -94,7 +107,9 @@ public final class ModelTest {
         }
     }
 
+    /** One call each: an object has 512. */
     private static String differ(String call, long got, long due) {
+        calls++;
         return got == due ? null : call + " answered " + got + ", due is " + due;
     }
 
